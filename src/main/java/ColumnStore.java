@@ -1,6 +1,7 @@
 public final class ColumnStore {
     private static final int COLUMNS = 3;
     private static final int MOST_ROWS = 64;
+    // MOST_ROWS times COLUMNS.
     private static final int MOST_CELLS = 192;
 
     // Row by row, three cells each: the language has no arrays of arrays.
