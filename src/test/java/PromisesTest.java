@@ -10,6 +10,7 @@ public final class PromisesTest {
     public static void main(String[] args) {
         newObject();
         objectsAreApart();
+        objectsByTurns();
         append();
         appendToFull();
         appendUnderRanges();
@@ -92,6 +93,31 @@ public final class PromisesTest {
         due("1: first row of another object", y.append(4, 5, 6), 0);
         due("1: ranges of another object", y.count(), 1);
         due("1: cells of another object", x.value(0, 0), 1);
+    }
+
+    private static void objectsByTurns() {
+        ColumnStore x = sample();
+        ColumnStore y = sample();
+        for (int column = 0; column < 3; column++) {
+            x.range(column, x.value(1, column), x.value(1, column));
+            y.range(column, y.value(3, column), y.value(3, column));
+            due("4: count in one's range of column " + column, x.count(), column == 2 ? 3 : 1);
+            due("4: count in the other's", y.count(), 1);
+            due("4: passing in one's range", x.passing(0), column == 2 ? 0 : 1);
+            due("4: passing in the other's", y.passing(0), 3);
+            x.open();
+            due("5: count after open", x.count(), 4);
+            due("5: count of the other, not opened", y.count(), 1);
+            y.open();
+        }
+        x.strike(0);
+        due("3: live of one", x.live(), 3);
+        due("3: live of the other", y.live(), 4);
+        due("3: strike in the other", y.strike(0), 0);
+        due("2: append to one", x.append(1, 2, 3), 5);
+        due("2: append to the other", y.append(4, 5, 6), 5);
+        due("2: value of one", x.value(5, 0), 1);
+        due("2: value of the other", y.value(5, 0), 4);
     }
 
     private static void append() {
